@@ -681,9 +681,7 @@ public final class HigherMoreLeft {
             if (other == null) {
                 return;
             }
-            for (int cell = 0; cell < CELLS; cell++) {
-                sores[cell] = other.sores[cell];
-            }
+            System.arraycopy(other.sores, 0, sores, 0, CELLS);
             kind = other.kind;
             place = other.place;
             hand = other.hand;

@@ -66,6 +66,13 @@ public final class ReaderTest {
         reads(x, 3, 2, 14, 9, 7, 2, 20, 10, 6, 8);
         reads(x, 4, 2, 14, 7, 9, 2, 20, 6, 10, 8);
         reads(x, 5, 3, 3, 3, 3, 3, 3, 3, 3, 3);
+        // From the last row UP a lot is not cut.
+        HigherMoreLeft low = Check.told("ih00;h012;s20;");
+        reads(low, 0, 14, 20, 19, 21, 8, 20, 18, 22, 20);
+        reads(low, 1, 14, 20, 19, 21, 14, 20, 19, 21, 20);
+        reads(low, 2, 8, 20, 18, 22, 2, 20, 18, 23, 20);
+        reads(low, 3, 14, 20, 21, 19, 8, 20, 22, 18, 20);
+        reads(low, 4, 14, 20, 19, 21, 8, 20, 18, 22, 20);
         x.he(0, 1);
         reads(x, 0, 2, 14, 7, 9, 2, 20, 6, 10, 8);
         reads(x, 3, 2, 14, 9, 7, 2, 20, 10, 6, 8);
@@ -100,6 +107,11 @@ public final class ReaderTest {
         follow("ih23;h023;", 3, 8, 2, -9, 4, 24);
         follow("ih05;s05;", 0, 0, 0, 0, 0, 0);
         follow("in23;", 1, 1, 1, 1, 1, 1);
+        // Struck a second time in the BLIND one's second round, by the 40th stroke or too late.
+        check.due("the 40th stroke", Check.told("is15;m3;o151;").follow(5), 40);
+        check.due("the 41st stroke", Check.told("is16;m4;o161;").follow(5), -9);
+        check.due("speak() with the 40th", Check.told("is15;m3;o151;").speak(5, 1), 40);
+        check.due("speak() with the 41st", Check.told("is16;m4;o161;").speak(5, 1), 41);
         follow("if05;", -9, -9, -9, -9, -9, -9);
     }
 

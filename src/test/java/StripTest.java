@@ -33,6 +33,8 @@ public final class StripTest {
         // It creeps from 2 to 8 by the first stroke, and from 10 to 16 by the fourth.
         strips("ic02;", 6, -9, -9, -9, -9, -9, -9, 1, -9, -9, -9);
         strips("is08;", -9, -9, -9, -9, -9, -9, -9, -9, -9, -9, -9);
+        // The first stroke brings it to 12; there is no strip behind column 5.
+        strips("is13;o122;", 4, -9, -9, -9, -9, 3, -9, -9, -9, -9, -9);
         strips("is08;m2;o082;", 6, -9, 3, -9, -9, -9, -9, 2, -9, -9, -9);
     }
 
@@ -81,6 +83,8 @@ public final class StripTest {
         check.due("around: 11 is beside none, 5 neither", x.bears(11, 5), 5);
         check.due("rows do not join", x.bears(19, 18), 18);
         HigherMoreLeft edge = Check.told("o054;");
+        check.due("1 is beside 0", Check.told("o004;").bears(1, 2), 2);
+        check.due("22 is beside 23", Check.told("o234;").bears(22, 21), 21);
         check.due("6 is not beside 5", edge.bears(6, 4), 6);
         check.due("one twice", x.bears(7, 7), -1);
         check.due("no CELL twice", x.bears(24, 24), -1);

@@ -18,6 +18,7 @@ public final class TwinTest {
                 follow(text, reader);
                 meanAndHardest(text, reader);
                 speak(text, reader);
+                evenings(text, reader, random);
             }
             strips(text);
             row(text, random);
@@ -113,6 +114,23 @@ public final class TwinTest {
         HigherMoreLeft x = Check.told(text);
         check.due(text + " speak(" + reader + ", 0)", x.speak(reader, 0), best);
         check.due(text + " speak(" + reader + ", 1)", x.speak(reader, 1), least);
+    }
+
+    /** The text strokes CELL 0 last, so that HAND is there as in EVENINGS. */
+    private static void evenings(String text, int reader, Random random) {
+        String ahead = text + "s00;";
+        char kind = KINDS.charAt(Check.told(text).itch(0));
+        int n = 1 + random.nextInt(20);
+        int seed = random.nextInt();
+        int z = seed;
+        int sum = 0;
+        for (int i = 0; i < n; i++) {
+            z = z * 1664525 + 1013904223;
+            int cell = (z & 0x7fffffff) / 256 % 24;
+            sum += Math.min(40, followed(Check.told(ahead + "i" + kind + two(cell) + ";"), reader));
+        }
+        HigherMoreLeft x = Check.told(ahead);
+        check.due(ahead + " evenings(" + reader + ", " + n + ", " + seed + ")", x.evenings(reader, n, seed), sum);
     }
 
     private static void strips(String text) {
