@@ -42,8 +42,9 @@ public final class HigherMoreLeft {
     private static final int LEAST_LOT = 2;
     private static final int MOST_LOT = 5;
     private static final int MOST_SEAM = 5;
-    private static final int[] HE_LEAST = {0, LEAST_BIT, LEAST_LOT, 0};
-    private static final int[] HE_MOST = {MOST_LEFT, MOST_BIT, MOST_LOT, MOST_SEAM};
+    /** Of LEFT, BIT, LOT and the SEAM, as he(what, v) tells them. */
+    private static final int[] HE_LEAST = {0, 1, 2, 0};
+    private static final int[] HE_MOST = {1, 3, 5, 5};
     private static final int MOST_LETTER = 255;
     private static final int MOST_LETTERS = 80;
     private static final int MOST_SAYINGS = 8;
@@ -427,7 +428,7 @@ public final class HigherMoreLeft {
         if (v < 0) {
             return refuse(BELOW);
         }
-        if (v > GONE || toldMany >= MOST_IN_ROW) {
+        if (v > GONE || isNot(toldMany, MOST_IN_ROW)) {
             return refuse(ROOM);
         }
         told[toldMany] = v;
