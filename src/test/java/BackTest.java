@@ -9,6 +9,7 @@ public final class BackTest {
         letterFaults();
         statementFaults();
         nothingComesWithAFault();
+        lettersOfAnEarlierText();
         check.end();
     }
 
@@ -160,5 +161,17 @@ public final class BackTest {
         for (int what = 11; what <= 16; what++) {
             check.due("a fault is no refusal " + what, x.count(what), 0);
         }
+    }
+
+    /** Letters that are no more must not make up for what a shorter text lacks. */
+    private static void lettersOfAnEarlierText() {
+        HigherMoreLeft x = new HigherMoreLeft();
+        check.due("a text", Check.tell(x, "s05;m3;"), 2);
+        check.due("one that lacks a digit", Check.tell(x, "s0"), -1002);
+        check.due("one that lacks its end", Check.tell(x, "s05"), -1003);
+        check.due("one that lacks all but a letter", Check.tell(x, "s05;m"), -1005);
+        check.due("none", x.back(), -1000);
+        check.due("a shorter text", Check.tell(x, "s05;"), 1);
+        check.due("TIME", x.count(0), 2);
     }
 }
