@@ -57,6 +57,8 @@ public final class HigherMoreLeft {
     private static final int STRIPS = 10;
     /** 9 in 10 for the WORD against 1 in 80 for each other. */
     private static final long TRUE_AGAINST_FALSE = 72L;
+    /** All bits of an int but its sign's. */
+    private static final int WITHOUT_SIGN = 0x7fffffff;
 
     private static final int NOBODY = -1;
     private static final int OTHER = -2;
@@ -468,7 +470,7 @@ public final class HigherMoreLeft {
             seed = seed * 1664525 + 1013904223;
             mind.take(now);
             mind.hand = 0;
-            mind.place = (seed & Integer.MAX_VALUE) / 256 % CELLS;
+            mind.place = (seed & WITHOUT_SIGN) / 256 % CELLS;
             strokes += Math.min(MOST_FOLLOWED, mind.followBy(kind));
         }
         return strokes;

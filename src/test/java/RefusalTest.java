@@ -7,6 +7,9 @@ public final class RefusalTest {
     private static final long LONG = 4000000000000000000L;
     private static final int LEAST = Integer.MIN_VALUE;
     private static final int GREATEST = Integer.MAX_VALUE;
+    private static final int STATES = 4;
+    private static final int FULL = 2;
+    private static final int GONE = 3;
 
     private interface Call {
         long on(HigherMoreLeft x);
@@ -19,45 +22,63 @@ public final class RefusalTest {
         ofReaders();
         ofSayings();
         ofTheRest();
+        ofStates();
+        ofNone();
+        ofCallsThatRefuseNothing();
         check.end();
     }
 
-    private static HigherMoreLeft object() {
-        HigherMoreLeft x = Check.told("is08;h124;m3;s01;o115;");
-        x.saying(8, 3);
-        x.row(9);
-        x.letter('m');
+    /** An object as it is at first, with some of all, full of all, and with an ITCH that is GONE. */
+    private static HigherMoreLeft object(int state) {
+        String[] texts = {"h013;", "is08;h124;m3;s01;o115;", "ic20;h135;m5;s09;o009;", "ih05;h112;m4;s05;o230;"};
+        HigherMoreLeft x = state == 0 ? new HigherMoreLeft() : Check.told(texts[state]);
+        boolean isFull = state == FULL;
+        if (isFull || state == 1) {
+            x.image();
+            x.stroke(10);
+        }
+        for (int i = 0; i < (isFull ? 8 : state); i++) {
+            x.saying(i, x.word(i, 21));
+        }
+        for (int i = 0; i < (isFull ? 20 : state); i++) {
+            x.row(x.behind(x.count(1), i + 1));
+        }
+        for (int i = 0; i < (isFull ? 80 : state); i++) {
+            x.letter("s14;".charAt(i % 4));
+        }
         return x;
     }
 
-    private static String allButRefusals(HigherMoreLeft x) {
-        StringBuilder text = new StringBuilder();
-        text.append(x.itch(0)).append(' ').append(x.itch(1)).append(' ').append(x.may(0));
-        for (int cell = 0; cell < 24; cell++) {
-            text.append(' ').append(x.sore(cell));
+    /** In each state the call answers the number, is counted once, and changes nothing else. */
+    private static void refused(String name, int number, Call call) {
+        for (int state = 0; state < STATES; state++) {
+            refusedIn(state, name, number, call);
         }
-        for (int what = 0; what <= 9; what++) {
-            text.append(' ').append(x.count(what));
-        }
-        return text.append(' ').append(x.kinds()).toString();
     }
 
-    private static void refused(String name, int number, Call call) {
-        HigherMoreLeft x = object();
-        String ahead = allButRefusals(x);
+    private static void refusedIn(int state, String name, int number, Call call) {
+        HigherMoreLeft x = object(state);
         long answer = call.on(x);
-        check.due(name, answer > LONG ? LONG - answer : answer, number);
+        boolean isLong = name.startsWith("mean") || name.startsWith("odds");
+        check.due(name + " in state " + state, answer, isLong ? LONG - number : number);
         for (int what = 11; what <= 16; what++) {
             check.due(name + ": count(" + what + ")", x.count(what), what == 10 - number ? 1 : 0);
         }
-        check.due(name + " changed something", allButRefusals(x).equals(ahead) ? 1 : 0, 1);
+        String same = Probe.toTheEnd(object(state));
+        check.due(name + " changed something in state " + state, Probe.toTheEnd(x).equals(same) ? 0 : 1, 0);
     }
 
     private static void taken(String name, Call call) {
-        HigherMoreLeft x = object();
+        for (int state = 0; state < STATES; state++) {
+            takenIn(state, name, call);
+        }
+    }
+
+    private static void takenIn(int state, String name, Call call) {
+        HigherMoreLeft x = object(state);
         call.on(x);
         for (int what = 11; what <= 16; what++) {
-            check.due(name + ": count(" + what + ")", x.count(what), 0);
+            check.due(name + " in state " + state + ": count(" + what + ")", x.count(what), 0);
         }
     }
 
@@ -87,8 +108,6 @@ public final class RefusalTest {
             refused("bears(0, " + cell + ")", -1, x -> x.bears(0, cell));
         }
         refused("bears(5, 5)", -1, x -> x.bears(5, 5));
-        taken("far(5, 5)", x -> x.far(5, 5));
-        taken("word(5, 5)", x -> x.word(5, 5));
     }
 
     private static void ofHeAndWhat() {
@@ -141,24 +160,99 @@ public final class RefusalTest {
         refused("evenings(5, least int, 1)", -4, x -> x.evenings(5, LEAST, 1));
         refused("evenings(5, 21, 1)", -6, x -> x.evenings(5, 21, 1));
         refused("evenings(5, greatest int, 1)", -6, x -> x.evenings(5, GREATEST, 1));
-        taken("follow(5)", x -> x.follow(5));
-        taken("mean(5, 1)", x -> x.mean(5, 1));
-        taken("evenings(5, 20, least int)", x -> x.evenings(5, 20, LEAST));
     }
 
     private static void ofSayings() {
         for (int word : new int[] {-1, 9, LEAST, GREATEST}) {
             refused("saying(0, " + word + ")", -2, x -> x.saying(0, word));
         }
-        HigherMoreLeft x = object();
-        for (int i = 0; i < 7; i++) {
-            x.saying(0, 0);
+        refusedIn(FULL, "saying(0, 0)", -6, x -> x.saying(0, 0));
+        refusedIn(FULL, "saying(23, 8)", -6, x -> x.saying(23, 8));
+        for (int state : new int[] {0, 1, GONE}) {
+            takenIn(state, "saying(0, 0)", x -> x.saying(0, 0));
+            takenIn(state, "saying(23, 8)", x -> x.saying(23, 8));
         }
-        check.due("no room: -1 first", x.saying(24, 9), -1);
-        check.due("no room: -2 first", x.saying(0, 9), -2);
-        check.due("no room", x.saying(0, 0), -6);
-        check.due("count(7)", x.count(7), 8);
-        check.due("count(16)", x.count(16), 1);
+    }
+
+    /** What is refused by what there is, not by its arguments alone. */
+    private static void ofStates() {
+        refusedIn(FULL, "letter(0)", -6, x -> x.letter(0));
+        refusedIn(FULL, "letter(255)", -6, x -> x.letter(255));
+        refusedIn(FULL, "row(0)", -6, x -> x.row(0));
+        refusedIn(FULL, "row(24)", -6, x -> x.row(24));
+        for (int state : new int[] {0, 1, GONE}) {
+            takenIn(state, "letter(0)", x -> x.letter(0));
+            takenIn(state, "letter(255)", x -> x.letter(255));
+            takenIn(state, "row(0)", x -> x.row(0));
+            takenIn(state, "row(24)", x -> x.row(24));
+        }
+        refusedIn(GONE, "taught()", -3, x -> x.taught());
+        refusedIn(0, "on()", -3, x -> x.on());
+        refusedIn(GONE, "on()", -3, x -> x.on());
+        for (int state : new int[] {1, FULL}) {
+            takenIn(state, "on()", x -> x.on());
+        }
+        for (int state : new int[] {0, 1, FULL}) {
+            takenIn(state, "taught()", x -> x.taught());
+        }
+    }
+
+    /** The least and the greatest of each argument that is taken. */
+    private static void ofNone() {
+        for (int cell : new int[] {0, 23}) {
+            taken("sore(" + cell + ")", x -> x.sore(cell));
+            taken("heal(" + cell + ")", x -> x.heal(cell));
+            taken("stroke(" + cell + ")", x -> x.stroke(cell));
+            taken("far(" + cell + ", " + cell + ")", x -> x.far(cell, cell));
+            taken("word(" + cell + ", " + cell + ")", x -> x.word(cell, cell));
+            taken("behind(" + cell + ", 0)", x -> x.behind(cell, 0));
+            taken("behind(" + cell + ", 20)", x -> x.behind(cell, 20));
+            taken("bears(" + cell + ", " + (23 - cell) + ")", x -> x.bears(cell, 23 - cell));
+            taken("grid(1, 1, " + cell + ", 0)", x -> x.grid(1, 1, cell, 0));
+            taken("grid(4, 6, " + cell + ", 1)", x -> x.grid(4, 6, cell, 1));
+        }
+        for (int part : new int[] {0, 1}) {
+            taken("itch(" + part + ")", x -> x.itch(part));
+            taken("may(" + part + ")", x -> x.may(part));
+            taken("next(" + part + ")", x -> x.next(part));
+            taken("fewest(" + part + ")", x -> x.fewest(part));
+            taken("odds(0, " + part + ")", x -> x.odds(0, part));
+            taken("odds(23, " + part + ")", x -> x.odds(23, part));
+            taken("mean(0, " + part + ")", x -> x.mean(0, part));
+            taken("mean(5, " + part + ")", x -> x.mean(5, part));
+            taken("speak(0, " + part + ")", x -> x.speak(0, part));
+            taken("speak(5, " + part + ")", x -> x.speak(5, part));
+        }
+        for (int kind : new int[] {0, 5}) {
+            taken("reads(" + kind + ", 0, 0)", x -> x.reads(kind, 0, 0));
+            taken("reads(" + kind + ", 8, greatest int)", x -> x.reads(kind, 8, GREATEST));
+            taken("follow(" + kind + ")", x -> x.follow(kind));
+            taken("hardest(" + kind + ")", x -> x.hardest(kind));
+            taken("evenings(" + kind + ", 1, least int)", x -> x.evenings(kind, 1, LEAST));
+            taken("evenings(" + kind + ", 20, greatest int)", x -> x.evenings(kind, 20, GREATEST));
+        }
+        int[][] he = {{0, 0, 1}, {1, 1, 3}, {2, 2, 5}, {3, 0, 5}};
+        for (int[] row : he) {
+            taken("he(" + row[0] + ", least)", x -> x.he(row[0], row[1]));
+            taken("he(" + row[0] + ", most)", x -> x.he(row[0], row[2]));
+        }
+        taken("strip(0)", x -> x.strip(0));
+        taken("strip(9)", x -> x.strip(9));
+    }
+
+    /** Calls that tell no REFUSAL, whatever they answer. */
+    private static void ofCallsThatRefuseNothing() {
+        for (int what : new int[] {-1, 0, 9, 10, 11, 16, 17, LEAST, GREATEST}) {
+            taken("count(" + what + ")", x -> x.count(what));
+        }
+        taken("back()", x -> x.back());
+        taken("say()", x -> x.say());
+        taken("hush()", x -> x.hush());
+        taken("heMany()", x -> x.heMany());
+        taken("bestStrip()", x -> x.bestStrip());
+        taken("kinds()", x -> x.kinds());
+        taken("judge()", x -> x.judge());
+        taken("image()", x -> x.image());
     }
 
     private static void ofTheRest() {
@@ -169,18 +263,10 @@ public final class RefusalTest {
         refused("behind(0, 21)", -6, x -> x.behind(0, 21));
         refused("row(-1)", -4, x -> x.row(-1));
         refused("row(25)", -6, x -> x.row(25));
-        refused("on()", -3, x -> x.on());
         refused("grid(0, 7, 24, 2)", -4, x -> x.grid(0, 7, 24, 2));
         refused("grid(5, 0, 24, 2)", -4, x -> x.grid(5, 0, 24, 2));
         refused("grid(5, 6, 24, 2)", -6, x -> x.grid(5, 6, 24, 2));
         refused("grid(4, 7, 24, 2)", -6, x -> x.grid(4, 7, 24, 2));
         refused("grid(greatest, greatest, 0, 0)", -6, x -> x.grid(GREATEST, GREATEST, 0, 0));
-        taken("count(10)", x -> x.count(10));
-        taken("behind(23, 20)", x -> x.behind(23, 20));
-        taken("back() with a FAULT", x -> x.back());
-        taken("next(0)", x -> x.next(0));
-        taken("bestStrip()", x -> x.bestStrip());
-        taken("judge()", x -> x.judge());
-        taken("image()", x -> x.image());
     }
 }
