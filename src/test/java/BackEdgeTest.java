@@ -171,7 +171,7 @@ public final class BackEdgeTest {
 
     private static void cells(String ahead, String behind) {
         for (int cell = 0; cell <= 99; cell++) {
-            told(ahead + cell / 10 + cell % 10 + behind + ";", cell <= 23 ? 1 : -2000);
+            told(ahead + Check.two(cell) + behind + ";", cell <= 23 ? 1 : -2000);
         }
     }
 

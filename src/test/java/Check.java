@@ -18,6 +18,11 @@ final class Check {
         }
     }
 
+    /** A CELL's two digits in a BACK. */
+    static String two(int cell) {
+        return (cell < 10 ? "0" : "") + cell;
+    }
+
     /** A new object on which a BACK was told, which must be without FAULT. */
     static HigherMoreLeft told(String text) {
         HigherMoreLeft x = new HigherMoreLeft();

@@ -157,7 +157,7 @@ public final class ImageEdgeTest {
     private static void countsAtTheirMost() {
         HigherMoreLeft x = Check.told("h135;m5;");
         for (int cell = 0; cell < 24; cell++) {
-            Check.tell(x, "o" + cell / 10 + cell % 10 + "9;");
+            Check.tell(x, "o" + Check.two(cell) + "9;");
         }
         x.stroke(23);
         for (int i = 0; i < 80; i++) {

@@ -23,10 +23,6 @@ public final class ReaderEdgeTest {
         check.end();
     }
 
-    private static String two(int cell) {
-        return (cell < 10 ? "0" : "") + cell;
-    }
-
     /** "a lot if LOT or more apart", "UP if its row is less" */
     private static void rowsApart() {
         for (int lot = 2; lot <= 5; lot++) {
@@ -169,7 +165,7 @@ public final class ReaderEdgeTest {
     /** A SEAM'S one at its SEAM with SORE 1 is GONE when the BLIND one comes by a second time, by 40 or too late. */
     private static void followedByForty() {
         for (int cell = 0; cell < 24; cell++) {
-            String text = "m" + cell % 6 + ";is" + two(cell) + ";o" + two(cell);
+            String text = "m" + cell % 6 + ";is" + Check.two(cell) + ";o" + Check.two(cell);
             int second = cell + 25;
             HigherMoreLeft x = Check.told(text + "1;");
             check.due("BLIND's stroke " + second, x.follow(5), second <= 40 ? second : -9);
@@ -245,7 +241,7 @@ public final class ReaderEdgeTest {
     private static void hardestFromEachCorner() {
         int[][] corners = {{0, 23}, {5, 18}, {18, 5}, {23, 0}};
         for (int[] row : corners) {
-            HigherMoreLeft x = Check.told("ih11;s" + two(row[0]) + ";");
+            HigherMoreLeft x = Check.told("ih11;s" + Check.two(row[0]) + ";");
             check.due("hardest(1) from " + row[0], x.hardest(1), row[1]);
             check.due("mean(1, 0) from " + row[0], x.mean(1, 0), 97);
             check.due("mean(1, 1) from " + row[0], x.mean(1, 1), 24);

@@ -20,10 +20,6 @@ public final class StripEdgeTest {
         check.end();
     }
 
-    private static String two(int cell) {
-        return (cell < 10 ? "0" : "") + cell;
-    }
-
     /** "STRIP s: row s (0 .. 3), column s less 4 (4 .. 9)" */
     private static void stripsAtTheEdges() {
         HigherMoreLeft x = Check.told("in08;");
@@ -38,7 +34,7 @@ public final class StripEdgeTest {
     private static void stripsToEachCell() {
         for (int row = 0; row < 4; row++) {
             for (int column = 0; column < 6; column++) {
-                HigherMoreLeft x = Check.told("ih" + two(6 * row + column) + ";");
+                HigherMoreLeft x = Check.told("ih" + Check.two(6 * row + column) + ";");
                 for (int s = 0; s <= 9; s++) {
                     int want = s == row ? column + 1 : s == 4 + column ? row + 1 : -9;
                     check.due("strip(" + s + ") to " + row + ", " + column, x.strip(s), want);
@@ -95,21 +91,21 @@ public final class StripEdgeTest {
 
     private static void fewestOne() {
         for (int cell = 0; cell < 24; cell++) {
-            fewest("ii" + two(cell) + ";", 1, cell);
-            fewest("ic" + two(cell) + ";", 1, cell);
-            fewest("ih" + two(cell) + ";", 1, cell);
-            fewest("in" + two(cell) + ";", 1, 0);
-            fewest("is" + two(cell) + ";o" + two(cell) + "2;", 1, cell);
+            fewest("ii" + Check.two(cell) + ";", 1, cell);
+            fewest("ic" + Check.two(cell) + ";", 1, cell);
+            fewest("ih" + Check.two(cell) + ";", 1, cell);
+            fewest("in" + Check.two(cell) + ";", 1, 0);
+            fewest("is" + Check.two(cell) + ";o" + Check.two(cell) + "2;", 1, cell);
         }
     }
 
     /** A SEAM'S one at its SEAM stays, so all the strokes are on its CELL; else it can be brought to a sore one. */
     private static void fewestTwoAndThree() {
         for (int cell : new int[] {0, 5, 8, 18, 23}) {
-            String text = "m" + cell % 6 + ";is" + two(cell) + ";";
+            String text = "m" + cell % 6 + ";is" + Check.two(cell) + ";";
             fewest(text, 3, cell);
-            fewest(text + "o" + two(cell) + "1;", 2, cell);
-            fewest(text + "o" + two(cell) + "2;", 1, cell);
+            fewest(text + "o" + Check.two(cell) + "1;", 2, cell);
+            fewest(text + "o" + Check.two(cell) + "2;", 1, cell);
         }
         fewest("is01;o002;", 2, 0);
         fewest("is23;o222;", 2, 0);
@@ -122,8 +118,8 @@ public final class StripEdgeTest {
     /** "(.. or it can not be)" */
     private static void fewestNever() {
         for (int cell = 0; cell < 24; cell += 5) {
-            fewest("if" + two(cell) + ";", -9, -9);
-            fewest("if" + two(cell) + ";o" + two(cell) + "9;", -9, -9);
+            fewest("if" + Check.two(cell) + ";", -9, -9);
+            fewest("if" + Check.two(cell) + ";o" + Check.two(cell) + "9;", -9, -9);
         }
     }
 
@@ -160,7 +156,7 @@ public final class StripEdgeTest {
     private static void bearsBySoreAround() {
         HigherMoreLeft far = new HigherMoreLeft();
         for (int sore = 0; sore < 24; sore++) {
-            HigherMoreLeft x = Check.told("o" + two(sore) + "1;");
+            HigherMoreLeft x = Check.told("o" + Check.two(sore) + "1;");
             for (int one = 0; one < 24; one++) {
                 for (int other = one + 1; other < 24; other++) {
                     if (one != sore && other != sore) {

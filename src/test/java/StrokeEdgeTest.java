@@ -29,10 +29,6 @@ public final class StrokeEdgeTest {
         check.end();
     }
 
-    private static String two(int cell) {
-        return (cell < 10 ? "0" : "") + cell;
-    }
-
     private static void strokes(String text, int... cellsAndPlaces) {
         HigherMoreLeft x = Check.told(text);
         for (int i = 0; i + 1 < cellsAndPlaces.length; i += 2) {
@@ -61,7 +57,7 @@ public final class StrokeEdgeTest {
     private static void kindsAndCells() {
         for (int kind = 0; kind < 6; kind++) {
             for (int cell = 0; cell < 24; cell++) {
-                HigherMoreLeft x = Check.told("i" + KINDS.charAt(kind) + two(cell) + ";");
+                HigherMoreLeft x = Check.told("i" + KINDS.charAt(kind) + Check.two(cell) + ";");
                 check.due("KIND", x.itch(0), kind);
                 check.due("CELL", x.itch(1), cell);
                 check.due("itch(-1)", x.itch(-1), -2);
@@ -72,7 +68,7 @@ public final class StrokeEdgeTest {
 
     private static void soreOfEachCell() {
         for (int cell = 0; cell < 24; cell++) {
-            HigherMoreLeft x = Check.told("ih00;o" + two(cell) + "4;");
+            HigherMoreLeft x = Check.told("ih00;o" + Check.two(cell) + "4;");
             for (int other = 0; other < 24; other++) {
                 check.due("sore(" + other + ")", x.sore(other), other == cell ? 4 : 0);
             }
@@ -185,12 +181,12 @@ public final class StrokeEdgeTest {
             for (int column = 0; column < 6; column++) {
                 int cell = 6 * row + column;
                 if (column > 0) {
-                    strokes("ii" + two(cell) + ";", cell - 1, column == 5 ? cell : cell + 1);
+                    strokes("ii" + Check.two(cell) + ";", cell - 1, column == 5 ? cell : cell + 1);
                 }
                 if (column < 5) {
-                    strokes("ii" + two(cell) + ";", cell + 1, column == 0 ? cell : cell - 1);
+                    strokes("ii" + Check.two(cell) + ";", cell + 1, column == 0 ? cell : cell - 1);
                 }
-                strokes("ii" + two(cell) + ";", cell, 24);
+                strokes("ii" + Check.two(cell) + ";", cell, 24);
             }
         }
     }
@@ -201,7 +197,7 @@ public final class StrokeEdgeTest {
             for (int cell = 0; cell < 24; cell++) {
                 boolean beside = cell / 6 == itch / 6 && Math.abs(cell - itch) == 1;
                 if (!beside && cell != itch) {
-                    strokes("ii" + two(itch) + ";", cell, itch);
+                    strokes("ii" + Check.two(itch) + ";", cell, itch);
                 }
             }
         }
@@ -234,7 +230,7 @@ public final class StrokeEdgeTest {
     private static void hairStays() {
         for (int itch : new int[] {0, 5, 12, 23}) {
             for (int cell = 0; cell < 24; cell++) {
-                strokes("ih" + two(itch) + ";", cell, cell == itch ? 24 : itch);
+                strokes("ih" + Check.two(itch) + ";", cell, cell == itch ? 24 : itch);
             }
         }
     }
@@ -243,9 +239,9 @@ public final class StrokeEdgeTest {
     private static void fleaStruckOnEachCell() {
         int[] on = {7, 8, 9, 10, 11, 12, 13, 14, 15, 16, 17, 18, 19, 20, 21, 22, 23, 0, 1, 2, 3, 4, 5, 6};
         for (int cell = 0; cell < 24; cell++) {
-            strokes("if" + two(cell) + ";", cell, on[cell]);
-            strokes("ih00;s23;if" + two(cell) + ";", cell, on[cell]);
-            strokes("o" + two(cell) + "9;if" + two(cell) + ";", cell, on[cell]);
+            strokes("if" + Check.two(cell) + ";", cell, on[cell]);
+            strokes("ih00;s23;if" + Check.two(cell) + ";", cell, on[cell]);
+            strokes("o" + Check.two(cell) + "9;if" + Check.two(cell) + ";", cell, on[cell]);
         }
     }
 
@@ -268,12 +264,12 @@ public final class StrokeEdgeTest {
                 int from = 6 * row + column;
                 int to = 6 * row + across[column];
                 int far = row == 0 ? 13 : 1;
-                String at = "ih14;s" + two(far) + ";if" + two(from) + ";";
+                String at = "ih14;s" + Check.two(far) + ";if" + Check.two(from) + ";";
                 strokes(at, far, to);
-                strokes(at + "o" + two(to) + "1;", far, from);
-                strokes(at + "o" + two(to) + "9;", far, from);
-                strokes(at + "o" + two(to) + "0;", far, to);
-                strokes(at + "o" + two(from) + "9;", far, to);
+                strokes(at + "o" + Check.two(to) + "1;", far, from);
+                strokes(at + "o" + Check.two(to) + "9;", far, from);
+                strokes(at + "o" + Check.two(to) + "0;", far, to);
+                strokes(at + "o" + Check.two(from) + "9;", far, to);
             }
         }
         // The stroke itself makes it SORE there: of columns 0 and 5 no other rule moves it.
@@ -316,7 +312,7 @@ public final class StrokeEdgeTest {
     private static void nothingIsGoneEither() {
         for (int itch : new int[] {0, 5, 18, 23}) {
             for (int cell = 0; cell < 24; cell++) {
-                strokes("in" + two(itch) + ";", cell, 24);
+                strokes("in" + Check.two(itch) + ";", cell, 24);
             }
         }
     }

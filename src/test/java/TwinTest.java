@@ -34,21 +34,17 @@ public final class TwinTest {
         check.end();
     }
 
-    private static String two(int cell) {
-        return (cell < 10 ? "0" : "") + cell;
-    }
-
     private static String anyBack(Random random, char kind) {
         StringBuilder text = new StringBuilder();
         text.append('h').append(random.nextInt(2)).append(1 + random.nextInt(3)).append(2 + random.nextInt(4)).append(';');
         text.append('m').append(random.nextInt(6)).append(';');
         for (int i = random.nextInt(6); i > 0; i--) {
-            text.append('o').append(two(random.nextInt(24))).append(random.nextInt(10)).append(';');
+            text.append('o').append(Check.two(random.nextInt(24))).append(random.nextInt(10)).append(';');
         }
         for (int i = random.nextInt(6); i > 0; i--) {
-            text.append('s').append(two(random.nextInt(24))).append(';');
+            text.append('s').append(Check.two(random.nextInt(24))).append(';');
         }
-        return text.append('i').append(kind).append(two(random.nextInt(24))).append(';').toString();
+        return text.append('i').append(kind).append(Check.two(random.nextInt(24))).append(';').toString();
     }
 
     private static void behind(String text, Random random) {
@@ -82,7 +78,7 @@ public final class TwinTest {
         int most = -1;
         int hardest = -1;
         for (int cell = 0; cell < 24; cell++) {
-            int strokes = Math.min(40, followed(Check.told(text + "i" + kind + two(cell) + ";"), reader));
+            int strokes = Math.min(40, followed(Check.told(text + "i" + kind + Check.two(cell) + ";"), reader));
             sum += strokes;
             if (strokes > most) {
                 most = strokes;
@@ -127,7 +123,7 @@ public final class TwinTest {
         for (int i = 0; i < n; i++) {
             z = z * 1664525 + 1013904223;
             int cell = (z & 0x7fffffff) / 256 % 24;
-            sum += Math.min(40, followed(Check.told(ahead + "i" + kind + two(cell) + ";"), reader));
+            sum += Math.min(40, followed(Check.told(ahead + "i" + kind + Check.two(cell) + ";"), reader));
         }
         HigherMoreLeft x = Check.told(ahead);
         check.due(ahead + " evenings(" + reader + ", " + n + ", " + seed + ")", x.evenings(reader, n, seed), sum);
@@ -167,7 +163,7 @@ public final class TwinTest {
         }
         int bits = 0;
         for (int kind = 0; kind < 6; kind++) {
-            HigherMoreLeft other = Check.told(text + "i" + KINDS.charAt(kind) + two(x.itch(1)) + ";");
+            HigherMoreLeft other = Check.told(text + "i" + KINDS.charAt(kind) + Check.two(x.itch(1)) + ";");
             HigherMoreLeft same = Check.told(text);
             boolean so = true;
             for (int i = 0; i < many; i++) {
@@ -233,7 +229,7 @@ public final class TwinTest {
         int itch = random.nextInt(24);
         int left = random.nextInt(2);
         int lot = 2 + random.nextInt(4);
-        HigherMoreLeft x = Check.told("h" + left + "1" + lot + ";ih" + two(itch) + ";");
+        HigherMoreLeft x = Check.told("h" + left + "1" + lot + ";ih" + Check.two(itch) + ";");
         HigherMoreLeft told = withHe(random.nextInt(2), 2 + random.nextInt(4));
         for (int i = 0; i < many; i++) {
             cells[i] = random.nextInt(24);
