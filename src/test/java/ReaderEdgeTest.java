@@ -271,6 +271,8 @@ public final class ReaderEdgeTest {
         speak("ih02;", 2, 13, 1);
         speak("ih04;", 2, 12, 1);
         speak("ih05;", 2, 13, 1);
+        // A BIT of 4 would bring the hand to 17 ahead of the itch, and it would be GONE behind 2: 3 is the most.
+        speak("m5;s13;is16;o171;", 0, 12, 3);
     }
 
     private static void speakAtTheEdges() {

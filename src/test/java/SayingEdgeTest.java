@@ -254,6 +254,8 @@ public final class SayingEdgeTest {
         check.due("LEFT 1, LOT 4 and more", said("ih03;", 0, 2).taught(), 14);
         check.due("LEFT 1, LOT 5 alone", said("ih04;", 0, 2).taught(), 15);
         check.due("none is true", said("ih04;", 0, 1).taught(), 2);
+        check.due("true by a LOT of 1 alone", said("ih01;", 0, 7).taught(), 2);
+        check.due("true by a LOT of 6 alone", said("ih05;", 0, 3).taught(), 2);
         check.due("one against one", said("ih04;", 0, 2, 0, 7).taught(), 2);
         check.due("two against one", said("ih04;", 0, 2, 0, 7, 0, 2).taught(), 15);
         check.due("eight", said("ih04;", 0, 2, 0, 2, 0, 2, 0, 2, 0, 7, 0, 7, 0, 7, 0, 2).taught(), 15);
