@@ -5,10 +5,11 @@ import java.util.regex.Matcher;
 import java.util.regex.Pattern;
 
 /**
- * The document read a second time, word by word and with the whole library at
- * hand, without a look at how the class does it: rows and columns instead of
- * numbers of CELLS, patterns instead of letters, every path instead of a short
- * way. The class must answer as this does.
+ * The document's words written down a second time, in another way than the
+ * class does it: rows and columns instead of numbers of CELLS, patterns instead
+ * of letters, every path instead of a short way. The class must answer as this
+ * does. Where the document is unclear, both read it as NOTES.md tells, so what
+ * is read wrong there is not seen by this.
  */
 final class SecondReading {
     private static final int GONE = 24;
