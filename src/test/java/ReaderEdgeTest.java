@@ -123,8 +123,8 @@ public final class ReaderEdgeTest {
 
     /** "CELLS 0, 1, .. one behind the other (round), by what stroke it is (0 first), whatever he says" */
     private static void blindGoesRound() {
-        HigherMoreLeft x = Check.told("h012;s09;");
         for (int word = 0; word <= 8; word++) {
+            HigherMoreLeft x = Check.told("h012;s09;");
             for (int n = 0; n < 24; n++) {
                 check.due("BLIND " + n, x.reads(5, word, n), n);
                 check.due("BLIND a round on", x.reads(5, word, n + 24), n);

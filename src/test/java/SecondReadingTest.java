@@ -1,4 +1,5 @@
 import java.lang.reflect.Constructor;
+import java.lang.reflect.Field;
 import java.lang.reflect.Method;
 import java.lang.reflect.Modifier;
 import java.util.ArrayList;
@@ -56,6 +57,7 @@ public final class SecondReadingTest {
         private final SecondReading second = new SecondReading();
         private final StringBuilder run = new StringBuilder();
         private boolean differs = false;
+        private int calls = 0;
 
         private long call(Method method, int... arguments) throws ReflectiveOperationException {
             run.append(' ').append(method.getName()).append(Arrays.toString(arguments));
@@ -67,7 +69,9 @@ public final class SecondReadingTest {
             return got;
         }
 
+        /** Each call of the object comes by here, so its calls are counted here. */
         private void due(String call, long got, long want) {
+            calls++;
             differs |= got != want;
             check.due(got == want ? call : "behind" + run + ": " + call, got, want);
         }
@@ -119,7 +123,7 @@ public final class SecondReadingTest {
             }
         }
         Random random = new Random(36);
-        for (int i = 0; i < 400; i++) {
+        for (int i = 0; i < 2000; i++) {
             anyRun(face, random);
         }
         check.end();
@@ -138,7 +142,17 @@ public final class SecondReadingTest {
         Constructor<?>[] made = HigherMoreLeft.class.getConstructors();
         check.due("how many constructors", made.length, 1);
         check.due("its arguments", made.length == 1 ? made[0].getParameterCount() : -1, 0);
-        check.due("the class is final", Modifier.isFinal(HigherMoreLeft.class.getModifiers()) ? 1 : 0, 1);
+        check.due("any constructors", HigherMoreLeft.class.getDeclaredConstructors().length, 1);
+        int ofTheClass = HigherMoreLeft.class.getModifiers();
+        check.due("the class is public and final", Modifier.isPublic(ofTheClass) && Modifier.isFinal(ofTheClass) ? 1 : 0, 1);
+        for (Field field : HigherMoreLeft.class.getDeclaredFields()) {
+            check.due(field.getName() + " is private", Modifier.isPrivate(field.getModifiers()) ? 1 : 0, 1);
+        }
+        for (Class<?> inside : HigherMoreLeft.class.getDeclaredClasses()) {
+            int of = inside.getModifiers();
+            boolean fits = Modifier.isStatic(of) && !Modifier.isPublic(of) && !Modifier.isProtected(of);
+            check.due(inside.getName() + " is static and not of the face", fits ? 1 : 0, 1);
+        }
     }
 
     /** New, GONE with much of all, full of all, and each of the KINDS with most edges. */
@@ -154,10 +168,10 @@ public final class SecondReadingTest {
         int filled = state == 2 ? 8 : state;
         for (int i = 0; i < filled; i++) {
             int from = 5 * i % 24;
-            pair.saying(from, i == 3 ? 8 : pair.x.word(from, 17));
+            pair.saying(from, i == 3 ? 8 : pair.second.word(from, 17));
         }
         for (int i = 0; i < (state == 2 ? 20 : state); i++) {
-            pair.row(pair.x.behind(pair.x.count(1), i + 1));
+            pair.row(pair.second.behind(pair.second.count(1), i + 1));
         }
         if (state == 2) {
             pair.call(HigherMoreLeft.class.getMethod("image"));
@@ -187,32 +201,41 @@ public final class SecondReadingTest {
         }
     }
 
+    /** An object is used for at most 512 calls: sameState takes 44 of them, and a told BACK up to 31. */
     private static void anyRun(List<Method> face, Random random) throws ReflectiveOperationException {
         Pair pair = new Pair();
         int itch = random.nextInt(24);
-        for (int call = 0; call < 300 && !pair.differs; call++) {
-            switch (random.nextInt(20)) {
-                case 0:
-                    pair.tell(anyText(random));
-                    break;
-                case 1:
-                case 2:
-                    int from = random.nextInt(24);
-                    pair.saying(from, pair.x.word(from, itch));
-                    break;
-                case 3:
-                case 4:
-                    pair.row(pair.x.behind(pair.x.count(1), Math.min(20, pair.x.count(8) + 1)));
-                    break;
-                case 5:
-                    pair.call(HigherMoreLeft.class.getMethod("stroke", int.class), Math.min(23, pair.x.itch(1)));
-                    break;
-                default:
-                    Method method = face.get(random.nextInt(face.size()));
-                    pair.call(method, anyArguments(method, random));
-                    break;
-            }
-            pair.sameState();
+        int most = 1 + random.nextInt(512 - 44 - 31);
+        while (pair.calls < most && !pair.differs) {
+            anyStep(pair, itch, face, random);
+        }
+        pair.sameState();
+        check.due("calls of a run within 512", pair.calls <= 512 ? 1 : 0, 1);
+    }
+
+    private static void anyStep(Pair pair, int itch, List<Method> face, Random random)
+            throws ReflectiveOperationException {
+        SecondReading second = pair.second;
+        switch (random.nextInt(20)) {
+            case 0:
+                pair.tell(anyText(random));
+                break;
+            case 1:
+            case 2:
+                int from = random.nextInt(24);
+                pair.saying(from, second.word(from, itch));
+                break;
+            case 3:
+            case 4:
+                pair.row(second.behind(second.count(1), Math.min(20, second.count(8) + 1)));
+                break;
+            case 5:
+                pair.call(HigherMoreLeft.class.getMethod("stroke", int.class), Math.min(23, second.itch(1)));
+                break;
+            default:
+                Method method = face.get(random.nextInt(face.size()));
+                pair.call(method, anyArguments(method, random));
+                break;
         }
     }
 

@@ -154,14 +154,13 @@ public final class StripEdgeTest {
 
     /** "if alike with less SORE of all CELLS FAR 1 of it together; if alike the lesser" */
     private static void bearsBySoreAround() {
-        HigherMoreLeft far = new HigherMoreLeft();
         for (int sore = 0; sore < 24; sore++) {
-            HigherMoreLeft x = Check.told("o" + Check.two(sore) + "1;");
             for (int one = 0; one < 24; one++) {
+                HigherMoreLeft x = Check.told("o" + Check.two(sore) + "1;");
                 for (int other = one + 1; other < 24; other++) {
                     if (one != sore && other != sore) {
-                        boolean oneIsBeside = far.far(one, sore) == 1;
-                        boolean otherIsBeside = far.far(other, sore) == 1;
+                        boolean oneIsBeside = x.far(one, sore) == 1;
+                        boolean otherIsBeside = x.far(other, sore) == 1;
                         bears(x, one, other, oneIsBeside && !otherIsBeside ? other : one);
                     }
                 }
@@ -193,9 +192,9 @@ public final class StripEdgeTest {
         int[][] columnsOfBoxes = {
             {0, 0, 0, 0, 0, 0}, {0, 0, 0, 1, 1, 1}, {0, 0, 1, 1, 2, 2}, {0, 0, 1, 2, 2, 3}, {0, 0, 1, 2, 3, 4},
             {0, 1, 2, 3, 4, 5}};
-        HigherMoreLeft x = new HigherMoreLeft();
         for (int a = 1; a <= 4; a++) {
             for (int b = 1; b <= 6; b++) {
+                HigherMoreLeft x = new HigherMoreLeft();
                 for (int cell = 0; cell < 24; cell++) {
                     int row = rowsOfBoxes[a - 1][cell / 6];
                     int column = columnsOfBoxes[b - 1][cell % 6];

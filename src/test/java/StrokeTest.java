@@ -14,7 +14,6 @@ public final class StrokeTest {
         nothing();
         far();
         behind();
-        theLastTime();
         check.end();
     }
 
@@ -166,24 +165,5 @@ public final class StrokeTest {
         check.due("behind(9, 1)", s.behind(9, 1), 9);
         check.due("behind(9, 4)", s.behind(9, 4), 24);
         check.due("behind(10, 1)", s.behind(10, 1), 9);
-    }
-
-    /** No object is promised anything behind 512 calls; the edge at TIME 999 is looked at all the same. */
-    private static void theLastTime() {
-        HigherMoreLeft x = Check.told("ih23;");
-        for (int i = 0; i < 998; i++) {
-            x.stroke(4);
-        }
-        check.due("two strokes told at 998", Check.tell(x, "s05;s06;"), -2004);
-        check.due("TIME stays", x.count(0), 998);
-        check.due("stroke at 998", x.stroke(5), 23);
-        check.due("stroke at 999", x.stroke(23), -6);
-        check.due("stroke on no CELL at 999", x.stroke(24), -1);
-        check.due("a stroke told at 999", Check.tell(x, "m3;s06;"), -2003);
-        check.due("TIME", x.count(0), 999);
-        check.due("HAND stays", x.count(1), 5);
-        check.due("SORE stays", x.sore(23), 0);
-        check.due("in mind it goes on", x.behind(23, 1), 24);
-        check.due("REFUSALS", x.count(16), 1);
     }
 }

@@ -349,8 +349,15 @@ public final class TwinTest {
     private static void anyCallsEnd(Random random) {
         for (int object = 0; object < 300; object++) {
             HigherMoreLeft x = new HigherMoreLeft();
-            for (int call = 0; call < 400; call++) {
-                anyCall(x, random);
+            // An object is used for at most 512 calls: a BACK takes up to 59 of them, the look at the bounds 35.
+            for (int calls = 0; calls < 512 - 59 - 35; calls++) {
+                if (random.nextInt(37) == 0) {
+                    String text = anyBack(random, KINDS.charAt(random.nextInt(6)));
+                    Check.tell(x, text);
+                    calls += text.length();
+                } else {
+                    anyCall(x, random);
+                }
             }
             bounded("TIME", x.count(0), 0, 999);
             bounded("HAND", x.count(1), 0, 23);
@@ -390,7 +397,7 @@ public final class TwinTest {
         int a = any(random);
         int b = any(random);
         int c = any(random);
-        switch (random.nextInt(37)) {
+        switch (random.nextInt(36)) {
             case 0: return x.letter(a);
             case 1: return x.back();
             case 2: return x.itch(a);
@@ -426,8 +433,7 @@ public final class TwinTest {
             case 32: return x.image();
             case 33: return x.on();
             case 34: return x.count(a);
-            case 35: return x.letter("ichfsnmo0123456789;".charAt(random.nextInt(19)));
-            default: return Check.tell(x, anyBack(random, KINDS.charAt(random.nextInt(6))));
+            default: return x.letter("ichfsnmo0123456789;".charAt(random.nextInt(19)));
         }
     }
 }
